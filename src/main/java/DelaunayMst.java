@@ -237,14 +237,10 @@ public final class DelaunayMst {
         return false;
     }
 
-    private int distanceTo(int x, int y, int id) {
-        int dx = x - xs[id];
-        int dy = y - ys[id];
-        return dx * dx + dy * dy;
-    }
-
     private int distance(int a, int b) {
-        return distanceTo(xs[a], ys[a], b);
+        int dx = xs[a] - xs[b];
+        int dy = ys[a] - ys[b];
+        return dx * dx + dy * dy;
     }
 
     private int closestTo(int x, int y, int except) {
@@ -252,7 +248,9 @@ public final class DelaunayMst {
         int bestDistance = 0;
         for (int id = 0; id < CAPACITY; id++) {
             if (used[id] && id != except) {
-                int here = distanceTo(x, y, id);
+                int dx = x - xs[id];
+                int dy = y - ys[id];
+                int here = dx * dx + dy * dy;
                 if (best == NO_POINT || here < bestDistance) {
                     best = id;
                     bestDistance = here;
@@ -331,7 +329,7 @@ public final class DelaunayMst {
     }
 
     private boolean outsideCircle(int a, int b, int c, int d) {
-        // long, as the determinant can be near 10^10
+        // long, as the determinant times the turn is far beyond an int
         long px = xs[a] - xs[d];
         long py = ys[a] - ys[d];
         long qx = xs[b] - xs[d];

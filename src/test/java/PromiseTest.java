@@ -279,6 +279,7 @@ public final class PromiseTest {
             due("P10 hop(" + bad + ", 0)", set.hop(bad, 0), NO_POINT);
         }
         due("P10 hop(0, 5)", set.hop(0, 5), NO_POINT);
+        due("P10 full set", fullSet().hop(23, 0), 26);
         due("P10 corners", of(0, 0, 127, 127).hop(0, 1), 32258);
     }
 
@@ -297,6 +298,8 @@ public final class PromiseTest {
         due("P11 groups(MAX)", set.groups(Integer.MAX_VALUE), 1);
         due("P11 one point", of(4, 4).groups(-5), 1);
         due("P11 one point", of(4, 4).groups(5), 1);
+        due("P11 full set", fullSet().groups(25), 24);
+        due("P11 full set", fullSet().groups(26), 1);
         due("P11 empty", new DelaunayMst().groups(-1), 0);
         due("P11 empty", new DelaunayMst().groups(100), 0);
     }
@@ -322,6 +325,8 @@ public final class PromiseTest {
         set.remove(0);
         due("P12 groupOf(4, MAX) without 0", set.groupOf(4, Integer.MAX_VALUE), 1);
         due("P12 groupOf(0, 9) removed", set.groupOf(0, 9), NO_POINT);
+        due("P12 full set", fullSet().groupOf(23, 26), 0);
+        due("P12 full set", fullSet().groupOf(23, 25), 23);
     }
 
     private static void nearest() {
