@@ -13,7 +13,7 @@ public final class DelaunayMst {
     private final int[] ys = new int[CAPACITY];
     private int count;
 
-    // Only growTree fills these, anew at every use, so no question leaves a trace in the next one.
+    // growTree fills these anew at every use, so no question leaves a trace in the next one.
     private final boolean[] waiting = new boolean[CAPACITY];
     private final int[] gap = new int[CAPACITY];
     private final int[] order = new int[CAPACITY];
